@@ -12,6 +12,7 @@ public final class GraphTest {
         badOrders();
         throughInheritance();
         askingChangesNothing();
+        eachAskedAlone();
         Due.end();
     }
 
@@ -134,5 +135,17 @@ public final class GraphTest {
         Due.is("asking changes nothing", Due.state(x), before);
         x.drop(0, 0);
         both("ring of 5 less a side", x, 2, 2);
+    }
+
+    /** Neither answer may lean on the other one having been asked for. */
+    private static void eachAskedAlone() {
+        SendTable x = ring(5);
+        Due.is("only colours()", x.colours(), 3);
+        x.drop(0, 0);
+        Due.is("only colours(), after a drop", x.colours(), 2);
+        SendTable y = ring(3);
+        Due.is("only crowd()", y.crowd(), 3);
+        y.drop(0, 0);
+        Due.is("only crowd(), after a drop", y.crowd(), 2);
     }
 }
