@@ -4,14 +4,28 @@ final class Due {
     static final int[] NEVER = {-3, -2, Integer.MIN_VALUE, Integer.MIN_VALUE + 1, Integer.MAX_VALUE, 1 << 16, 1001};
 
     private static int wrong = 0;
+    private static String about = "";
 
     private Due() {
+    }
+
+    /** Runs a test under a name that stands before each of its wrong answers. */
+    static void test(String name, Runnable test) {
+        about = name + " | ";
+        try {
+            test.run();
+        } catch (RuntimeException | StackOverflowError thrown) {
+            // No call may throw; the tests after this one are to be run all the same.
+            wrong++;
+            System.out.println(about + "threw " + thrown);
+        }
+        about = "";
     }
 
     static void is(String what, long got, long want) {
         if (got != want) {
             wrong++;
-            System.out.println(what + " answered " + got + ", due is " + want);
+            System.out.println(about + what + " answered " + got + ", due is " + want);
         }
     }
 
@@ -22,7 +36,7 @@ final class Due {
     static void is(String what, String got, String want) {
         if (!got.equals(want)) {
             wrong++;
-            System.out.println(what + ": got " + got + ", due is " + want);
+            System.out.println(about + what + ": got " + got + ", due is " + want);
         }
     }
 
