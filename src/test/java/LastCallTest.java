@@ -1,6 +1,6 @@
 import java.util.function.ToLongFunction;
 
-/** An object is used for 512 calls: whatever the last of them is, it answers as due. */
+/** An object is used for 512 calls: whatever they are and whatever the last is, it answers as due. */
 public final class LastCallTest {
     private static final int CALLS = 512;
 
@@ -24,6 +24,10 @@ public final class LastCallTest {
         last("crowd()", SendTable::crowd, 2);
         last("colours()", SendTable::colours, 2);
         fullLast();
+        defineThroughout();
+        dropThroughout();
+        moveThroughout();
+        askedThroughout();
         Due.end();
     }
 
@@ -45,5 +49,43 @@ public final class LastCallTest {
             Due.is("addClass(NONE)", x.addClass(SendTable.NONE), SendTable.FULL);
         }
         Due.is("as the last call, classes()", x.classes(), 10);
+    }
+
+    private static void defineThroughout() {
+        SendTable x = Due.tree(SendTable.NONE);
+        int m = 0;
+        for (int used = 1; used < CALLS - 1; used++) {
+            m = 1 + used % 1000;
+            Due.is("define(0, 3, " + m + ")", x.define(0, 3, m), true);
+        }
+        Due.is("after defining throughout, send(0, 3)", x.send(0, 3), m);
+    }
+
+    private static void dropThroughout() {
+        SendTable x = Due.tree(SendTable.NONE);
+        for (int used = 1; used < CALLS - 1; used += 2) {
+            Due.is("define(0, 3, 30)", x.define(0, 3, 30), true);
+            Due.is("drop(0, 3)", x.drop(0, 3), true);
+        }
+        Due.is("after dropping throughout, send(0, 3)", x.send(0, 3), 0);
+    }
+
+    private static void moveThroughout() {
+        SendTable x = Due.tree(SendTable.NONE, SendTable.NONE, 0);
+        for (int used = 3; used < CALLS - 2; used++) {
+            int to = used % 2 - 1;
+            Due.is("move(2, " + to + ")", x.move(2, to), true);
+        }
+        Due.is("move(2, 1), where it has not been", x.move(2, 1), true);
+        Due.is("after moving throughout, parent(2)", x.parent(2), 1);
+    }
+
+    private static void askedThroughout() {
+        SendTable x = Boundary.five();
+        for (int used = 11; used < CALLS - 1; used += 2) {
+            Due.is("crowd()", x.crowd(), 2);
+            Due.is("colours()", x.colours(), 2);
+        }
+        Due.is("after asking throughout, heirs(0, 7)", x.heirs(0, 7), 0b00111);
     }
 }

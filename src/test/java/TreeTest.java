@@ -9,6 +9,7 @@ public final class TreeTest {
         addClassWrongParent();
         addClassFull();
         addClassInheritsAtOnce();
+        addClassTakesNoCopy();
         moveTakesWhatIsUnder();
         moveToNoneAndToTheSame();
         moveRefused();
@@ -88,6 +89,25 @@ public final class TreeTest {
         Due.is("a class added later inherits", x.send(1, 3), 30);
         Due.is("addClass(NONE)", x.addClass(NONE), 2);
         Due.is("a root inherits nothing", x.understands(2), 0);
+    }
+
+    /** A class that took a copy of what was above it would answer the same until that changes. */
+    private static void addClassTakesNoCopy() {
+        SendTable x = Due.tree(NONE, 0);
+        x.define(0, 3, 30);
+        x.define(1, 4, 41);
+        Due.is("addClass(1)", x.addClass(1), 2);
+        Due.is("owner(2, 3)", x.owner(2, 3), 0);
+        Due.is("owner(2, 4)", x.owner(2, 4), 1);
+        Due.is("heirs(0, 3)", x.heirs(0, 3), 0b111);
+        Due.is("heirs(2, 4)", x.heirs(2, 4), 0);
+        Due.is("drop(2, 4), only inherited", x.drop(2, 4), false);
+        x.define(0, 3, 31);
+        Due.is("send(2, 3), defined anew above", x.send(2, 3), 31);
+        x.drop(1, 4);
+        Due.is("send(2, 4), dropped above", x.send(2, 4), 0);
+        x.move(2, NONE);
+        Due.is("understands(2), made a root", x.understands(2), 0);
     }
 
     private static void moveTakesWhatIsUnder() {
